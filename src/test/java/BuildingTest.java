@@ -198,8 +198,22 @@ final class BuildingTest {
         Check.fails("slot -1", Check.INDEX, () -> x.chain(0, -1));
         Check.fails("slot 10, not placed", Check.INDEX, () -> x.chain(7, 10));
         Check.fails("not placed", Check.STATE, () -> x.chain(7, 0));
+        Check.fails("not placed, whatever the slot", Check.STATE, () -> x.chain(7, 5));
         Check.fails("a long one", Check.STATE, () -> x.chain(4, 0));
         Check.fails("its own slot", Check.STATE, () -> x.chain(0, 0));
+        longChain();
+    }
+
+    private static void longChain() {
+        TimetableBuilder x = Check.with("0:0", "4:0", "0:2", "4:5", "5:3,5", "1:2");
+        x.place(0, 0);
+        x.place(1, 6);
+        x.place(2, 7);
+        x.place(3, 1);
+        x.place(4, 8);
+        x.place(5, 2);
+        Check.due("each member brings its teacher and its groups", 63, () -> x.chain(0, 1));
+        Check.due("the whole chain from its end", 63, () -> x.chain(4, 0));
     }
 
     private static void exchange() {
@@ -237,6 +251,19 @@ final class BuildingTest {
         Check.due("two in one slot, the second needs the first room", 7, () -> y.chain(1, 1));
         Check.due("so the first gets the second room", 3, () -> y.exchange(1, 1));
         Check.same("after", "1 6 0", Check.places(y));
+        exchangeFittingRooms();
+    }
+
+    private static void exchangeFittingRooms() {
+        TimetableBuilder x = Check.with("0:0", "0:1,2", "1:0,2", "2:1/1");
+        x.setRoom(0, 19, 0);
+        x.setRoom(1, 20, 0);
+        x.setRoom(2, 20, 1);
+        x.place(1, 4);
+        x.place(2, 11);
+        x.place(3, 8);
+        Check.due("two neighbours come to one slot", 3, () -> x.exchange(1, 1));
+        Check.same("the capacity is just enough", "-1 7 1 2", Check.places(x));
     }
 
     private static void exchangeFails() {

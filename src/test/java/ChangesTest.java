@@ -40,7 +40,7 @@ final class ChangesTest {
     }
 
     private static void undoOfEach() {
-        TimetableBuilder x = Check.with("0:0,1", "1:1", "2:2", "3:3*2");
+        TimetableBuilder x = Check.with("0:0,1", "1:1", "2:2", "3:3*2", "4:4/7*2");
         x.place(0, 24);
         x.place(1, 6);
         takenBack("setRoom", x, () -> x.setRoom(0, 1, 1));
@@ -64,12 +64,13 @@ final class ChangesTest {
     }
 
     private static void takenBack(String what, TimetableBuilder x, Check.Call call) {
+        // Another difference before each call, so that a change too few or too many is seen.
+        x.setGroup(5, 1 + x.setting(2, 5) % 40);
         String before = dump(x);
         call.answer();
         Check.due(what + " is a difference here", false, before.equals(dump(x)));
         Check.due(what + " is a change", 5, x::undo);
         Check.same(what + " taken back", before, dump(x));
-        x.setWeight(0, 1);
     }
 
     private static void sixAtMost() {

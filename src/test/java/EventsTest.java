@@ -2,6 +2,7 @@
 final class EventsTest {
     public static void main(String[] args) {
         removeEvent();
+        removeFirstOfFourteen();
         split();
         splitIntoFourteen();
         event();
@@ -36,6 +37,26 @@ final class EventsTest {
         x.removeEvent(0);
         Check.due("none is left", 0, () -> x.removeEvent(0));
         Check.fails("none to remove", Check.INDEX, () -> x.removeEvent(0));
+    }
+
+    private static void removeFirstOfFourteen() {
+        TimetableBuilder x = new TimetableBuilder();
+        for (int event = 0; event < 14; event++) {
+            Check.add(x, event % 6 + ":" + event % 6);
+        }
+        x.place(13, 8);
+        x.mark();
+        x.fix(13, true);
+        Check.due("thirteen remain", 13, () -> x.removeEvent(0));
+        Check.due("the last place", 8, () -> x.event(12, 5));
+        Check.due("the last mark", 8, () -> x.marked(12));
+        Check.due("the last one is fixed", 1, () -> x.event(12, 6));
+        Check.due("there", 12, () -> x.at(1, 2));
+        Check.add(x, "0:5");
+        Check.due("the new last one has no place", -1, () -> x.event(13, 5));
+        Check.due("no mark", -1, () -> x.marked(13));
+        Check.due("is not fixed", 0, () -> x.event(13, 6));
+        Check.due("and takes nothing", 2, () -> x.taken(1, 1));
     }
 
     private static void split() {
