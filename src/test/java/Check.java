@@ -46,6 +46,15 @@ final class Check {
         }
     }
 
+    /** The answer, or the name of the exception. */
+    static String answer(Call call) {
+        try {
+            return Long.toString(call.answer());
+        } catch (RuntimeException e) {
+            return madeByTheClass(e) ? e.getClass().getSimpleName() : "machine " + e;
+        }
+    }
+
     static boolean madeByTheClass(RuntimeException e) {
         StackTraceElement[] trace = e.getStackTrace();
         return trace.length > 0 && trace[0].getClassName().startsWith("TimetableBuilder");
