@@ -3,8 +3,6 @@
  * A comment before a test is the sentence that it tests.
  */
 final class ChainBoundsTest {
-    private static final int[] NO_EVENTS = {-1, 9, 14, Integer.MIN_VALUE, Integer.MAX_VALUE};
-    private static final int[] NO_SLOTS = {-1, 10, Integer.MIN_VALUE, Integer.MAX_VALUE};
     private static final Refusals SCENE = new Refusals(Scene::rich);
     private static final Refusals FULL = new Refusals(Scene::full);
 
@@ -48,12 +46,12 @@ final class ChainBoundsTest {
     // "Throws IndexOutOfBoundsException if there is no such event or slot", first of all
 
     private static void refusesEventsAndSlots() {
-        for (int event : NO_EVENTS) {
+        for (int event : Scene.NO_EVENTS) {
             both(SCENE, "event " + event, Check.INDEX, event, 0);
             both(SCENE, "event " + event + ", slot 10", Check.INDEX, event, 10);
         }
         both(FULL, "event 14 of 14", Check.INDEX, 14, 5);
-        for (int slot : NO_SLOTS) {
+        for (int slot : Check.outside(10)) {
             both(SCENE, "slot " + slot, Check.INDEX, 3, slot);
             both(SCENE, "slot " + slot + " comes before not placed", Check.INDEX, 4, slot);
             both(SCENE, "slot " + slot + " comes before the length", Check.INDEX, 1, slot);
@@ -269,11 +267,24 @@ final class ChainBoundsTest {
                 return x;
             });
             there.asks("P26 the teacher does not matter here", 7, x -> x.chain(0, 1));
-            there.unsupported("P25 teacher " + a + " is only where it is", x -> x.exchange(0, 1));
+            for (int event = 0; event < 3; event++) {
+                int e = event;
+                String what = "P25 teacher " + a + " is only where it is, from " + e;
+                there.unsupported(what, x -> x.exchange(e, e == 1 ? 0 : 1));
+            }
             TimetableBuilder y = threeInAChain(3);
             y.setTeacher(a, 3);
             exchanges("teacher " + a + " in both slots", y, 0, 1, 7, "6 0 7 2");
         }
+        TimetableBuilder w = Check.with("0:0", "1:0");
+        w.place(0, 6 * 7);
+        w.place(1, 6 * 3);
+        w.setTeacher(0, 8 + 128);
+        w.setTeacher(1, 8);
+        Check.fails("P25 one of two in other slots", Check.UNSUPPORTED, () -> w.exchange(0, 3));
+        Check.fails("P25 from the other one", Check.UNSUPPORTED, () -> w.exchange(1, 7));
+        w.setTeacher(1, 8 + 128);
+        exchanges("both in both slots", w, 0, 3, 3, "18 42");
         TimetableBuilder z = threeInAChain(3);
         z.setTeacher(3, 1);
         exchanges("a teacher outside of the chain", z, 0, 1, 7, "6 0 7 2");

@@ -48,7 +48,7 @@ final class ChangeBoundsTest {
     // "Throws IllegalArgumentException if what is not from 0 to 4"
 
     private static void countRefuses() {
-        for (int what : new int[] {-1, 5, Integer.MIN_VALUE, Integer.MAX_VALUE}) {
+        for (int what : Check.outside(5)) {
             SCENE.argument("P33 what " + what, x -> x.count(what));
         }
         int[] due = {9, 4, 2, 9, 6};
@@ -114,6 +114,7 @@ final class ChangeBoundsTest {
             String answer = Check.answer(() -> one.getValue().on(x));
             Check.due(one.getKey() + " answers", false, answer.endsWith("Exception"));
             Check.due("P33 changes after " + one.getKey(), 6, () -> x.count(4));
+            noObstacles(one.getKey(), x);
             Check.due("P34 undo of " + one.getKey(), 5, x::undo);
             boolean differs = !Look.difference(before, Look.atTable(() -> after(five(), one.getValue()))).isEmpty();
             Check.due(one.getKey() + " makes a difference here", true, differs);
@@ -122,6 +123,18 @@ final class ChangeBoundsTest {
                 y.undo();
                 return y;
             }));
+        }
+    }
+
+    // "No placed event has a place with an obstacle"
+
+    private static void noObstacles(String what, TimetableBuilder x) {
+        for (int event = 0; event < x.count(0); event++) {
+            int e = event;
+            int place = x.event(e, 5);
+            if (place != -1) {
+                Check.due("P17 an obstacle after " + what, 0, () -> x.obstacle(e, place));
+            }
         }
     }
 

@@ -40,34 +40,37 @@ final class ChangesTest {
     }
 
     private static void undoOfEach() {
+        takenBack("setRoom", start(), x -> x.setRoom(0, 1, 1));
+        takenBack("setGroup", start(), x -> x.setGroup(0, 40));
+        takenBack("setTeacher", start(), x -> x.setTeacher(0, 0));
+        takenBack("setWeight", start(), x -> x.setWeight(1, 5));
+        takenBack("addEvent", start(), x -> Check.add(x, "5:5"));
+        takenBack("removeEvent", start(), x -> x.removeEvent(0));
+        takenBack("split", start(), x -> x.split(0, 2));
+        takenBack("place", start(), x -> x.place(0, 0));
+        takenBack("unplace", start(), x -> x.unplace(0));
+        takenBack("fix", start(), x -> x.fix(0, true) ? 1 : 0);
+        takenBack("insert", start(), x -> x.insert(3));
+        takenBack("build", start(), TimetableBuilder::build);
+        takenBack("exchange", start(), x -> x.exchange(0, 1));
+        takenBack("improve", start(), x -> x.improve(3));
+        takenBack("mark", start(), TimetableBuilder::mark);
+        TimetableBuilder saved = start();
+        saved.save();
+        saved.place(0, 0);
+        takenBack("restore", saved, TimetableBuilder::restore);
+    }
+
+    private static TimetableBuilder start() {
         TimetableBuilder x = Check.with("0:0,1", "1:1", "2:2", "3:3*2", "4:4/7*2");
         x.place(0, 24);
         x.place(1, 6);
-        takenBack("setRoom", x, () -> x.setRoom(0, 1, 1));
-        takenBack("setGroup", x, () -> x.setGroup(0, 40));
-        takenBack("setTeacher", x, () -> x.setTeacher(0, 0));
-        takenBack("setWeight", x, () -> x.setWeight(1, 5));
-        takenBack("addEvent", x, () -> Check.add(x, "5:5"));
-        takenBack("removeEvent", x, () -> x.removeEvent(0));
-        takenBack("split", x, () -> x.split(0, 2));
-        takenBack("place", x, () -> x.place(0, 0));
-        takenBack("unplace", x, () -> x.unplace(0));
-        takenBack("fix", x, () -> x.fix(0, true) ? 1 : 0);
-        takenBack("insert", x, () -> x.insert(3));
-        takenBack("build", x, x::build);
-        takenBack("exchange", x, () -> x.exchange(0, 1));
-        takenBack("improve", x, () -> x.improve(3));
-        takenBack("mark", x, x::mark);
-        x.save();
-        x.place(0, 0);
-        takenBack("restore", x, x::restore);
+        return x;
     }
 
-    private static void takenBack(String what, TimetableBuilder x, Check.Call call) {
-        // Another difference before each call, so that a change too few or too many is seen.
-        x.setGroup(5, 1 + x.setting(2, 5) % 40);
+    private static void takenBack(String what, TimetableBuilder x, Refusals.Act act) {
         String before = dump(x);
-        call.answer();
+        act.on(x);
         Check.due(what + " is a difference here", false, before.equals(dump(x)));
         Check.due(what + " is a change", 5, x::undo);
         Check.same(what + " taken back", before, dump(x));

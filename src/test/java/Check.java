@@ -123,6 +123,11 @@ final class Check {
         }
     }
 
+    /** Numbers that are not from 0 to one below this. */
+    static int[] outside(int bound) {
+        return new int[] {-1, bound, Integer.MIN_VALUE, Integer.MAX_VALUE};
+    }
+
     /** Only these rooms keep a capacity. */
     static void onlyRooms(TimetableBuilder x, int... rooms) {
         for (int room = 0; room < 6; room++) {

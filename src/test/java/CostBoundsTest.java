@@ -3,8 +3,6 @@
  * A comment before a test is the sentence that it tests.
  */
 final class CostBoundsTest {
-    private static final int[] NO_EVENTS = {-1, 9, 14, Integer.MIN_VALUE, Integer.MAX_VALUE};
-    private static final int[] NO_PLACES = {-1, 60, Integer.MIN_VALUE, Integer.MAX_VALUE};
     private static final Refusals SCENE = new Refusals(Scene::rich);
     private static final Refusals FULL = new Refusals(Scene::full);
 
@@ -31,7 +29,7 @@ final class CostBoundsTest {
     // "Throws IllegalArgumentException if what is not from 0 to 4"
 
     private static void costRefuses() {
-        for (int what : new int[] {-1, 5, Integer.MIN_VALUE, Integer.MAX_VALUE}) {
+        for (int what : Check.outside(5)) {
             SCENE.argument("P28 what " + what, x -> x.cost(what));
         }
         int[] due = {1, 1, 2 + 3 + 8 + 1, 5, 2 * 1 + 4 * 1 + 5 * 14 + 100 * 5};
@@ -249,12 +247,12 @@ final class CostBoundsTest {
     // obstacle for it"
 
     private static void costAtRefuses() {
-        for (int event : NO_EVENTS) {
+        for (int event : Scene.NO_EVENTS) {
             SCENE.index("P29 event " + event, x -> x.costAt(event, 0));
             SCENE.index("P29 event " + event + " without a place", x -> x.costAt(event, 60));
         }
         FULL.index("P29 event 14 of 14", x -> x.costAt(14, 59));
-        for (int place : NO_PLACES) {
+        for (int place : Check.outside(60)) {
             SCENE.index("P29 place " + place, x -> x.costAt(0, place));
         }
         int[] events = {1, 5, 4, 6, 8, 8, 3};

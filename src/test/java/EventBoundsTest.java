@@ -6,7 +6,6 @@ import java.util.List;
  * A comment before a test is the sentence that it tests.
  */
 final class EventBoundsTest {
-    private static final int[] NO_EVENTS = {-1, 9, 14, Integer.MIN_VALUE, Integer.MAX_VALUE};
     private static final Refusals SCENE = new Refusals(Scene::rich);
     private static final Refusals FULL = new Refusals(Scene::full);
 
@@ -15,6 +14,7 @@ final class EventBoundsTest {
         removeAll();
         removeEach();
         removeWhatIsPlaced();
+        removeLeavesNothing();
         removeAndAdd();
         removeIsNoSaving();
         splitRefusesEvents();
@@ -64,7 +64,7 @@ final class EventBoundsTest {
     // "Throws IndexOutOfBoundsException if there is no such event"
 
     private static void removeRefuses() {
-        for (int event : NO_EVENTS) {
+        for (int event : Scene.NO_EVENTS) {
             SCENE.index("P10 event " + event, x -> x.removeEvent(event));
         }
         FULL.index("P10 event 14 of 14", x -> x.removeEvent(14));
@@ -114,6 +114,27 @@ final class EventBoundsTest {
         Check.due("P10 so another event fits", -1, () -> x.place(1, 12));
     }
 
+    private static void removeLeavesNothing() {
+        for (int number = 0; number < 6; number++) {
+            int n = number;
+            TimetableBuilder x = fourteen();
+            while (x.count(0) > 0) {
+                x.removeEvent(x.count(0) - 1);
+            }
+            for (int index = 0; index < 18; index++) {
+                int k = index;
+                Check.due("P22 nothing is taken", 0, () -> x.taken(k / 6, k % 6));
+            }
+            for (int place = 0; place < 60; place++) {
+                int k = place;
+                Check.fails("P21 nothing is there", Check.NO_ELEMENT, () -> x.at(k / 6, k % 6));
+            }
+            int event = Check.add(x, n + ":" + n);
+            Check.due("P18 a new event may stand everywhere", 60, () -> x.places(event, 0));
+            Check.due("P20 nothing hinders it", 0, () -> x.hindering(event, n));
+        }
+    }
+
     private static void removeAndAdd() {
         for (int event : new int[] {0, 5, 13}) {
             TimetableBuilder x = fourteen();
@@ -129,23 +150,24 @@ final class EventBoundsTest {
     }
 
     private static void removeIsNoSaving() {
+        List<String> then = rows(fourteen());
         TimetableBuilder x = fourteen();
-        x.save();
-        List<String> then = rows(x);
         x.removeEvent(3);
         x.removeEvent(0);
         x.undo();
         x.undo();
         Look.same("P34 undo brings events and marks back", then, rows(x));
-        x.removeEvent(4);
-        x.restore();
-        Look.same("P36 restore too", then, rows(x));
+        TimetableBuilder y = fourteen();
+        y.save();
+        y.removeEvent(4);
+        y.restore();
+        Look.same("P36 restore too", then, rows(y));
     }
 
     // "Throws IndexOutOfBoundsException if there is no such event" before all others
 
     private static void splitRefusesEvents() {
-        for (int event : NO_EVENTS) {
+        for (int event : Scene.NO_EVENTS) {
             SCENE.index("P11 event " + event, x -> x.split(event, 1));
             SCENE.index("P11 the event comes before the set", x -> x.split(event, 0));
             if (event != 9) {
@@ -235,11 +257,11 @@ final class EventBoundsTest {
     // "what: 0 for its teacher, ... 6 for 1 if it is fixed, otherwise 0", "Throws ... if what is not from 0 to 6"
 
     private static void eventRefuses() {
-        for (int event : NO_EVENTS) {
+        for (int event : Scene.NO_EVENTS) {
             SCENE.index("P12 event " + event, x -> x.event(event, 0));
             SCENE.index("P12 the event comes before what", x -> x.event(event, 7));
         }
-        for (int what : new int[] {-1, 7, Integer.MIN_VALUE, Integer.MAX_VALUE}) {
+        for (int what : Check.outside(7)) {
             SCENE.argument("P12 what " + what, x -> x.event(0, what));
         }
     }

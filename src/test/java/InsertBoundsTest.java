@@ -3,7 +3,6 @@
  * capacity, so that the places are 6 * slot. A comment before a test is the sentence that it tests.
  */
 final class InsertBoundsTest {
-    private static final int[] NO_EVENTS = {-1, 9, 14, Integer.MIN_VALUE, Integer.MAX_VALUE};
     private static final Refusals SCENE = new Refusals(Scene::rich);
     private static final Refusals FULL = new Refusals(Scene::full);
 
@@ -35,6 +34,7 @@ final class InsertBoundsTest {
         moreGroupsFirst();
         lowerNumbersLast();
         buildGoesOn();
+        buildTriesEachOnce();
         buildMovesOthers();
         Check.end();
     }
@@ -60,7 +60,7 @@ final class InsertBoundsTest {
     // "UnsupportedOperationException if it cannot be inserted", in this order
 
     private static void insertRefuses() {
-        for (int event : NO_EVENTS) {
+        for (int event : Scene.NO_EVENTS) {
             SCENE.index("P23 event " + event, x -> x.insert(event));
         }
         FULL.index("P23 event 14 of 14", x -> x.insert(14));
@@ -302,6 +302,15 @@ final class InsertBoundsTest {
         x.place(3, 6);
         x.fix(3, true);
         inserts("P23 the first takes the place of the second", x, 2, 2, "1 7 0 6");
+        TimetableBuilder y = Scene.inRooms(new int[] {0, 1}, "0:2", "1:1", "0:0/1", "3:3");
+        y.setRoom(0, 30, 1);
+        y.setTeacher(0, 3);
+        y.setTeacher(1, 1);
+        y.place(0, 1);
+        y.place(1, 0);
+        y.place(3, 6);
+        y.fix(3, true);
+        inserts("P23 the second has only the place of the first", y, 2, 2, "7 1 0 6");
     }
 
     // "While hindering events are placed anew, the inserted event and those of them with lower numbers are placed
@@ -372,7 +381,15 @@ final class InsertBoundsTest {
         }
         Check.due("P24 ten slots for fourteen", 4, y::build);
         Check.same("P24 the lower ones have them", "0 6 12 18 24 30 36 42 48 54 -1 -1 -1 -1", Check.places(y));
-        Check.due("P3 without a place", 4, () -> y.cost(3));
+        Check.due("P28 four without a place", 4, () -> y.cost(3));
+        TimetableBuilder z = new TimetableBuilder();
+        StringBuilder places = new StringBuilder();
+        for (int event = 0; event < 14; event++) {
+            Check.add(z, event % 6 + ":" + event % 6);
+            places.append(event == 0 ? "" : " ").append(event);
+        }
+        Check.due("P24 all fourteen", 0, z::build);
+        Check.same("P24 each has a place", places.toString(), Check.places(z));
     }
 
     // "those with fewer suitable places first"
@@ -397,18 +414,17 @@ final class InsertBoundsTest {
     }
 
     private static void placesBeforeGroups() {
-        TimetableBuilder x = oneRoom(new int[] {3, 1, 2}, new int[] {-1, -1, -1}, "0:0,1,2", "1:3", "2:4");
-        Check.due("P24 three groups, but two places", 1, x::build);
-        Check.same("P24 is last", "-1 0 6", Check.places(x));
-        TimetableBuilder y = Scene.inRooms(new int[] {0, 1}, "0:0,1,2,3,4,5", "1:0", "2:0");
-        for (int group = 0; group < 6; group++) {
-            y.setGroup(group, 0);
+        for (String groups : new String[] {"0,1", "0,1,2", "0,1,2,3,4", "0,1,2,3,4,5"}) {
+            TimetableBuilder x = Scene.inOneRoom("0:" + groups, "1:0", "2:0");
+            for (int group = 0; group < 6; group++) {
+                x.setGroup(group, 5);
+            }
+            x.setTeacher(0, 3);
+            x.setTeacher(1, 1);
+            x.setTeacher(2, 2);
+            Check.due("P24 one place more, whatever the groups " + groups, 1, x::build);
+            Check.same("P24 is last with groups " + groups, "-1 0 6", Check.places(x));
         }
-        y.setTeacher(0, 3);
-        y.setTeacher(1, 1);
-        y.setTeacher(2, 2);
-        Check.due("P24 six groups, but four places", 1, y::build);
-        Check.same("P24 is last too", "-1 0 6", Check.places(y));
     }
 
     // "of several those with more groups"
@@ -442,6 +458,19 @@ final class InsertBoundsTest {
         Check.same("P24 the one behind them is", "-1 0 -1 54", Check.places(x));
         Check.due("P24 the fixed one is fixed", 1, () -> x.event(1, 6));
         Check.due("P24 the new one is not", 1, () -> x.count(2));
+    }
+
+    private static void buildTriesEachOnce() {
+        TimetableBuilder x = Scene.inRooms(new int[] {0, 1}, "1:1*2", "1:2", "0:2", "0:5*2");
+        x.setTeacher(0, 1 + 4 + 8);
+        x.setTeacher(1, 1 + 2 + 8);
+        x.place(1, 7);
+        x.place(2, 18);
+        // Event 1 can make way for event 0 only when event 2 has made way for event 3.
+        Check.due("P24 the first one fails, the last one does not", 1, x::build);
+        Check.same("P24 the first one is not tried again", "-1 7 0 12", Check.places(x));
+        Check.due("P24 but by the next build", 0, x::build);
+        Check.same("P24 now it has a place", "1 19 0 12", Check.places(x));
     }
 
     private static void buildMovesOthers() {

@@ -3,7 +3,6 @@
  * A comment before a test is the sentence that it tests.
  */
 final class MarkBoundsTest {
-    private static final int[] NO_EVENTS = {-1, 9, 14, Integer.MIN_VALUE, Integer.MAX_VALUE};
     private static final Refusals SCENE = new Refusals(Scene::rich);
     private static final Refusals FULL = new Refusals(Scene::full);
 
@@ -27,7 +26,7 @@ final class MarkBoundsTest {
     // "Throws IndexOutOfBoundsException if there is no such event"
 
     private static void markedRefuses() {
-        for (int event : NO_EVENTS) {
+        for (int event : Scene.NO_EVENTS) {
             SCENE.index("P32 event " + event, x -> x.marked(event));
         }
         FULL.index("P32 event 14 of 14", x -> x.marked(14));

@@ -3,8 +3,6 @@
  * A comment before a test is the sentence that it tests.
  */
 final class ObstacleBoundsTest {
-    private static final int[] NO_EVENTS = {-1, 9, 14, Integer.MIN_VALUE, Integer.MAX_VALUE};
-    private static final int[] NO_PLACES = {-1, 60, Integer.MIN_VALUE, Integer.MAX_VALUE};
     private static final Refusals SCENE = new Refusals(Scene::rich);
     private static final Refusals FULL = new Refusals(Scene::full);
 
@@ -240,11 +238,11 @@ final class ObstacleBoundsTest {
     // "Throws IndexOutOfBoundsException if there is no such event or place", "place: the place, 0 to 59"
 
     private static void obstacleRefuses() {
-        for (int event : NO_EVENTS) {
+        for (int event : Scene.NO_EVENTS) {
             SCENE.index("P17 event " + event, x -> x.obstacle(event, 0));
         }
         FULL.index("P17 event 14 of 14", x -> x.obstacle(14, 0));
-        for (int place : NO_PLACES) {
+        for (int place : Check.outside(60)) {
             SCENE.index("P17 place " + place, x -> x.obstacle(0, place));
         }
         SCENE.asks("P17 the first place", 0, x -> x.obstacle(8, 0));
@@ -254,12 +252,12 @@ final class ObstacleBoundsTest {
     // "Throws IllegalArgumentException if the obstacle is out of range", "obstacle, 0 to 7"
 
     private static void placesRefuses() {
-        for (int event : NO_EVENTS) {
+        for (int event : Scene.NO_EVENTS) {
             SCENE.index("P18 event " + event, x -> x.places(event, 0));
             SCENE.index("P18 the event comes before the obstacle", x -> x.places(event, 8));
         }
         FULL.index("P18 event 14 of 14", x -> x.places(14, 0));
-        for (int obstacle : new int[] {-1, 8, Integer.MIN_VALUE, Integer.MAX_VALUE}) {
+        for (int obstacle : Check.outside(8)) {
             SCENE.argument("P18 obstacle " + obstacle, x -> x.places(0, obstacle));
         }
     }
@@ -296,13 +294,13 @@ final class ObstacleBoundsTest {
     // "Throws java.util.NoSuchElementException if there is no such index", "index, ... from 0"
 
     private static void freeRefuses() {
-        for (int event : NO_EVENTS) {
+        for (int event : Scene.NO_EVENTS) {
             SCENE.index("P19 event " + event, x -> x.free(event, 0));
             SCENE.index("P19 the event comes before the index", x -> x.free(event, -1));
             SCENE.index("P19 also before a large one", x -> x.free(event, 60));
         }
         FULL.index("P19 event 14 of 14", x -> x.free(14, 0));
-        for (int index : new int[] {-1, 60, Integer.MIN_VALUE, Integer.MAX_VALUE}) {
+        for (int index : Check.outside(60)) {
             SCENE.fails("P19 index " + index, Check.NO_ELEMENT, x -> x.free(0, index));
         }
         SCENE.fails("P19 nothing is free", Check.NO_ELEMENT, x -> x.free(5, 0));
@@ -352,11 +350,11 @@ final class ObstacleBoundsTest {
     // "Throws IndexOutOfBoundsException if there is no such event or place"
 
     private static void hinderingRefuses() {
-        for (int event : NO_EVENTS) {
+        for (int event : Scene.NO_EVENTS) {
             SCENE.index("P20 event " + event, x -> x.hindering(event, 0));
         }
         FULL.index("P20 event 14 of 14", x -> x.hindering(14, 0));
-        for (int place : NO_PLACES) {
+        for (int place : Check.outside(60)) {
             SCENE.index("P20 place " + place, x -> x.hindering(0, place));
         }
         SCENE.asks("P20 nothing at the first place", 0, x -> x.hindering(0, 0));

@@ -3,10 +3,6 @@
  * A comment before a test is the sentence that it tests.
  */
 final class PlaceBoundsTest {
-    private static final int[] NO_EVENTS = {-1, 9, 14, Integer.MIN_VALUE, Integer.MAX_VALUE};
-    private static final int[] NO_PLACES = {-1, 60, Integer.MIN_VALUE, Integer.MAX_VALUE};
-    private static final int[] OUTSIDE_SIX = {-1, 6, Integer.MIN_VALUE, Integer.MAX_VALUE};
-    private static final int[] OUTSIDE_TEN = {-1, 10, Integer.MIN_VALUE, Integer.MAX_VALUE};
     private static final Refusals SCENE = new Refusals(Scene::rich);
     private static final Refusals FULL = new Refusals(Scene::full);
 
@@ -72,12 +68,12 @@ final class PlaceBoundsTest {
     // "Throws IndexOutOfBoundsException if there is no such event or place", first of all
 
     private static void placeRefusesEventsAndPlaces() {
-        for (int event : NO_EVENTS) {
+        for (int event : Scene.NO_EVENTS) {
             SCENE.index("P14 event " + event, x -> x.place(event, 0));
             SCENE.index("P14 event " + event + ", without a place", x -> x.place(event, 60));
         }
         FULL.index("P14 event 14 of 14", x -> x.place(14, 30));
-        for (int place : NO_PLACES) {
+        for (int place : Check.outside(60)) {
             SCENE.index("P14 place " + place, x -> x.place(8, place));
             SCENE.index("P14 place " + place + " comes before fixed", x -> x.place(0, place));
         }
@@ -142,7 +138,7 @@ final class PlaceBoundsTest {
     // "IndexOutOfBoundsException if there is no such event", "IllegalStateException if it is not placed"
 
     private static void unplaceRefuses() {
-        for (int event : NO_EVENTS) {
+        for (int event : Scene.NO_EVENTS) {
             SCENE.index("P15 event " + event, x -> x.unplace(event));
         }
         FULL.index("P15 event 14 of 14", x -> x.unplace(14));
@@ -176,7 +172,7 @@ final class PlaceBoundsTest {
     private static void fixRefuses() {
         for (int set = 0; set <= 1; set++) {
             boolean fixed = set == 1;
-            for (int event : NO_EVENTS) {
+            for (int event : Scene.NO_EVENTS) {
                 SCENE.index("P16 event " + event, x -> x.fix(event, fixed) ? 1 : 0);
             }
             FULL.index("P16 event 14 of 14", x -> x.fix(14, fixed) ? 1 : 0);
@@ -202,11 +198,11 @@ final class PlaceBoundsTest {
     // "IndexOutOfBoundsException if there is no such slot or room", "NoSuchElementException if there is none"
 
     private static void atRefuses() {
-        for (int slot : OUTSIDE_TEN) {
+        for (int slot : Check.outside(10)) {
             SCENE.index("P21 slot " + slot, x -> x.at(slot, 0));
             SCENE.index("P21 slot " + slot + " without a room", x -> x.at(slot, 6));
         }
-        for (int room : OUTSIDE_SIX) {
+        for (int room : Check.outside(6)) {
             SCENE.index("P21 room " + room, x -> x.at(1, room));
         }
         SCENE.asks("P21 slot 1, room 0", 0, x -> x.at(1, 0));
@@ -237,15 +233,15 @@ final class PlaceBoundsTest {
     // group or room"
 
     private static void takenRefuses() {
-        for (int what : new int[] {-1, 3, Integer.MIN_VALUE, Integer.MAX_VALUE}) {
+        for (int what : Check.outside(3)) {
             SCENE.argument("P22 what " + what, x -> x.taken(what, 0));
-            for (int index : OUTSIDE_SIX) {
+            for (int index : Check.outside(6)) {
                 SCENE.argument("P22 what comes before index " + index, x -> x.taken(what, index));
             }
         }
         for (int what = 0; what <= 2; what++) {
             int k = what;
-            for (int index : OUTSIDE_SIX) {
+            for (int index : Check.outside(6)) {
                 SCENE.index("P22 index " + index + " of " + k, x -> x.taken(k, index));
             }
         }

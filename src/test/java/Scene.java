@@ -1,5 +1,8 @@
 /** Builders that the tests of boundary cases begin with. */
 final class Scene {
+    /** Events that rich() does not have. */
+    static final int[] NO_EVENTS = {-1, 9, 14, Integer.MIN_VALUE, Integer.MAX_VALUE};
+
     private Scene() {
     }
 

@@ -5,7 +5,6 @@ import java.util.List;
  * A comment before a test is the sentence that it tests.
  */
 final class SettingBoundsTest {
-    private static final int[] OUTSIDE_SIX = {-1, 6, Integer.MIN_VALUE, Integer.MAX_VALUE};
     private static final Refusals SCENE = new Refusals(Scene::rich);
 
     public static void main(String[] args) {
@@ -102,6 +101,14 @@ final class SettingBoundsTest {
             Scene.rich().restore();
             return x;
         }));
+        Look.same("P1 nor in what was saved or can be taken back", Look.at(Scene::rich), Look.at(() -> {
+            TimetableBuilder x = Scene.rich();
+            TimetableBuilder other = Scene.full();
+            other.save();
+            other.build();
+            other.undo();
+            return x;
+        }));
     }
 
     // "Sets the capacity and the features of a room.", "capacity, 0 to 99", "features, 0 to 15"
@@ -130,15 +137,15 @@ final class SettingBoundsTest {
     }
 
     private static void setRoomRefuses() {
-        for (int room : OUTSIDE_SIX) {
+        for (int room : Check.outside(6)) {
             SCENE.index("P2 room " + room, x -> x.setRoom(room, 50, 1));
             SCENE.index("P2 the room comes before the capacity", x -> x.setRoom(room, 100, 1));
             SCENE.index("P2 the room comes before the features", x -> x.setRoom(room, 50, 16));
         }
-        for (int capacity : new int[] {-1, 100, Integer.MIN_VALUE, Integer.MAX_VALUE}) {
+        for (int capacity : Check.outside(100)) {
             SCENE.argument("P2 capacity " + capacity, x -> x.setRoom(1, capacity, 1));
         }
-        for (int features : new int[] {-1, 16, Integer.MIN_VALUE, Integer.MAX_VALUE}) {
+        for (int features : Check.outside(16)) {
             SCENE.argument("P2 features " + features, x -> x.setRoom(1, 50, features));
         }
     }
@@ -213,11 +220,11 @@ final class SettingBoundsTest {
     }
 
     private static void setGroupRefuses() {
-        for (int group : OUTSIDE_SIX) {
+        for (int group : Check.outside(6)) {
             SCENE.index("P3 group " + group, x -> x.setGroup(group, 7));
             SCENE.index("P3 the group comes before the size", x -> x.setGroup(group, 41));
         }
-        for (int size : new int[] {-1, 41, Integer.MIN_VALUE, Integer.MAX_VALUE}) {
+        for (int size : Check.outside(41)) {
             SCENE.argument("P3 size " + size, x -> x.setGroup(0, size));
         }
     }
@@ -279,7 +286,7 @@ final class SettingBoundsTest {
     }
 
     private static void setTeacherRefuses() {
-        for (int teacher : OUTSIDE_SIX) {
+        for (int teacher : Check.outside(6)) {
             SCENE.index("P4 teacher " + teacher, x -> x.setTeacher(teacher, 3));
             SCENE.index("P4 the teacher comes before the slots", x -> x.setTeacher(teacher, 1024));
         }
@@ -367,11 +374,11 @@ final class SettingBoundsTest {
     }
 
     private static void setWeightRefuses() {
-        for (int what : new int[] {-1, 3, Integer.MIN_VALUE, Integer.MAX_VALUE}) {
+        for (int what : Check.outside(3)) {
             SCENE.index("P5 what " + what, x -> x.setWeight(what, 7));
             SCENE.index("P5 what comes before the weight", x -> x.setWeight(what, 10));
         }
-        for (int weight : new int[] {-1, 10, Integer.MIN_VALUE, Integer.MAX_VALUE}) {
+        for (int weight : Check.outside(10)) {
             SCENE.argument("P5 weight " + weight, x -> x.setWeight(0, weight));
         }
     }
@@ -397,11 +404,11 @@ final class SettingBoundsTest {
     // "Throws IllegalArgumentException if what is not from 0 to 3", "IndexOutOfBoundsException if there is no such"
 
     private static void settingLimits() {
-        for (int what : new int[] {-1, 4, Integer.MIN_VALUE, Integer.MAX_VALUE}) {
+        for (int what : Check.outside(4)) {
             SCENE.argument("P6 what " + what, x -> x.setting(what, 0));
             SCENE.argument("P6 what comes before the index", x -> x.setting(what, 6));
         }
-        for (int index : OUTSIDE_SIX) {
+        for (int index : Check.outside(6)) {
             for (int what = 0; what <= 3; what++) {
                 int k = what;
                 SCENE.index("P6 index " + index + " of " + k, x -> x.setting(k, index));
